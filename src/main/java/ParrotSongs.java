@@ -21,8 +21,7 @@ public final class ParrotSongs {
 
     private final House house = new House();
     private final History history = new History();
-    private final Pad pad = new Pad();
-    private final Reader reader = new Reader(pad);
+    private final Reader reader = new Reader();
     private final House[] slots = new House[SLOTS];
     private final boolean[] saved = new boolean[SLOTS];
     /** The parrot on which what-if questions are tried out. */
@@ -206,7 +205,7 @@ public final class ParrotSongs {
             case 9: return house.settings[FADE];
             case 10: return house.settings[GAIN];
             case 11: return house.settings[TIRE];
-            case 12: return pad.length;
+            case 12: return reader.pad.length;
             case 13: return history.count;
             default: return BAD_VALUE;
         }
@@ -275,13 +274,13 @@ public final class ParrotSongs {
 
     /** Appends up to 8 characters to the pad, and returns its length then. */
     public int put(long characters) {
-        return pad.append(characters);
+        return reader.pad.append(characters);
     }
 
     /** Empties the pad, and returns the length that it had. */
     public int wipe() {
-        int length = pad.length;
-        pad.length = 0;
+        int length = reader.pad.length;
+        reader.pad.length = 0;
         return length;
     }
 
@@ -301,7 +300,7 @@ public final class ParrotSongs {
         while (done < Pad.MOST && reader.readNext() && !isError(carryOrder())) {
             done++;
         }
-        pad.length = 0;
+        reader.pad.length = 0;
         return history.keepUnlessError(done);
     }
 
@@ -942,9 +941,9 @@ public final class ParrotSongs {
         }
     }
 
-    /** Reads the pad order by order. */
+    /** Reads its pad order by order. */
     private static final class Reader {
-        private final Pad pad;
+        final Pad pad = new Pad();
         private int at = 0;
         /** Whether an order has to come: at the start, and behind a semicolon. */
         private boolean awaits = true;
@@ -956,10 +955,6 @@ public final class ParrotSongs {
         int number = 0;
         final int[] bars = new int[MOST_BARS];
         int barCount = 0;
-
-        Reader(Pad pad) {
-            this.pad = pad;
-        }
 
         void start() {
             at = 0;

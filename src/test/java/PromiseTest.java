@@ -58,6 +58,7 @@ public final class PromiseTest {
         ordersOfTexts();
         undo();
         undoOfEachChange();
+        undoOneByOne();
         save();
         restore();
         Check.end();
@@ -233,11 +234,44 @@ public final class PromiseTest {
         full.lesson(0, 2, 19);
         full.lesson(0, 0, 0);
         due("sixty", full.of(0, 0), 60);
+        due("one more", full.lesson(0, 1, 1), 19);
+        due("sixty", full.of(0, 0), 60);
+        due("one forgotten", full.of(0, 5), 1);
         full.set(ParrotSongs.SPAN, 4);
         full.night();
         full.lesson(0, 0, 0);
         full.lesson(0, 2, 0);
-        due("one for each bar that links", full.of(0, 5), 39);
+        due("one for each bar that links", full.of(0, 5), 40);
+
+        ParrotSongs w = told("Sabcdef;Sab;Sde;B;L0.0;H0;L0.1;H0;L0.2;H0", 10);
+        w.set(ParrotSongs.SPAN, 4);
+        // bc, cd and ef are as strong, and came in this order
+        w.lesson(0, 1, 0);
+        due("ab grows, bc is forgotten", w.of(0, 0), 4);
+        // bd comes, cd is forgotten
+        w.lesson(0, 2, 0);
+        dueLink(w, 0, "de", 3, 1);
+        dueLink(w, 2, "ab", 3, 1);
+        dueLink(w, 3, "ef", 1, 1);
+        due("two forgotten", w.of(0, 5), 2);
+
+        ParrotSongs v = told("Sabcdefg;Sab;B;L0.0;H0;L0.1;H0;L0.0/6", 8);
+        v.set(ParrotSongs.SPAN, 6);
+        // the least fresh ones: bc 1, cd 1, de 1, ef 1, fg 1, ab 2; each one is forgotten just before it is heard
+        v.lesson(0, 0, 0);
+        due("six", v.of(0, 0), 6);
+        dueLink(v, 0, "fg", 1, 1);
+        dueLink(v, 4, "bc", 1, 1);
+        dueLink(v, 5, "ab", 3, 1);
+        due("and ga, too", v.of(0, 5), 6);
+
+        ParrotSongs u = told("Sabcdefg;Sab;B;L0.1;H0;L0.1;H0;L0.0;H0", 9);
+        u.set(ParrotSongs.SPAN, 4);
+        // the least fresh one is the strongest one
+        u.lesson(0, 0, 5);
+        due("five", u.of(0, 0), 5);
+        dueLink(u, 4, "ab", 3, 1);
+        dueLink(u, 3, "cd", 1, 1);
     }
 
     private static void hush() {
@@ -353,6 +387,9 @@ public final class PromiseTest {
         due("three less two", y.night(), 0);
         dueLink(y, 0, "ab", 1, 0);
         due("one less two", y.night(), 1);
+        y.lesson(0, 0, 0);
+        dueLink(y, 0, "ab", 1, 1);
+        due("comes anew", y.of(0, 0), 1);
     }
 
     private static void nightsAreLimited() {
@@ -534,6 +571,9 @@ public final class PromiseTest {
         due("index", y.mistake(0, 0, 0), 1);
         due("bar", y.mistake(0, 0, 1), 2);
         due("itself, and 1", y.mistake(0, 0, 2), 3);
+        ParrotSongs z = told("Sabc;Sa;Sda;B", 4);
+        due("stops", z.mistake(0, 0, 1), NONE);
+        due("a is the last bar of others", z.mistake(0, 0, 2), 0);
     }
 
     private static void rhymes() {
@@ -589,6 +629,18 @@ public final class PromiseTest {
         due("what -1", x.count(-1), BAD_VALUE);
         due("what 14", x.count(14), BAD_VALUE);
         due("far off", x.count(Integer.MIN_VALUE), BAD_VALUE);
+        ParrotSongs y = told("Sabc;Sb;Sc;Sd;Se;Sf;Sg;Sabd;B;B;B;B;L0.7;L1.7;L2.7;L3.7;L3.0/1", 17);
+        y.set(ParrotSongs.TIRE, 3);
+        int[] full = {0, 8, 4, 5, 14, 10, 0, 15};
+        for (int what = 0; what < full.length; what++) {
+            due("full count " + what, y.count(what), full[what]);
+        }
+        due("songs known", y.of(0, 6), 254);
+        due("parrots", y.ofSong(6, 5), 15);
+        due("follows", y.follows(3, 6), 0);
+        due("best lesson", y.bestLesson(3, 0), NONE);
+        due("best lesson", y.bestLesson(3, 1), NONE);
+        due("mistake", y.mistake(0, 0, 2), 128);
     }
 
     private static void lessonsFor() {
@@ -614,7 +666,9 @@ public final class PromiseTest {
         ParrotSongs y = told("Sabcdef;B;L0.0;H0", 4);
         y.set(ParrotSongs.SPAN, 4);
         due("the first link is forgotten", y.lessonsFor(0, 0), 0);
-        due("hushed ahead of each one", told("Sabc;Sb;Sac;B;L0.2;L0.1", 6).lessonsFor(0, 0), 1);
+        due("hushed ahead of each one", told("Sab;Saaaa;B;L0.1", 4).lessonsFor(0, 0), 3);
+        due("not only ahead of the first one", told("Saba;Saaa;B;L0.1", 4).lessonsFor(0, 0), 2);
+        due("as strong as can be", told("Sab;Saaaaaaaaaaaa;B;L0.1", 4).lessonsFor(0, 0), 9);
         for (int no : NO_INDEX) {
             due("no parrot", x.lessonsFor(no, 0), NO_SUCH);
             due("no song", x.lessonsFor(0, no), NO_SUCH);
@@ -855,6 +909,46 @@ public final class PromiseTest {
         due("the pad stays", x.count(12), 3);
         due("the slot stays", x.restore(0), 0);
         due("parrots", x.count(2), 3);
+        ParrotSongs y = new ParrotSongs();
+        for (int i = 0; i < 9; i++) {
+            y.night();
+            due("an error records nothing", y.hush(0), NO_SUCH);
+        }
+        for (int i = 8; i > 2; i--) {
+            due("undo", y.undo(), i - 3);
+            due("nights", y.count(0), i);
+        }
+        due("no more", y.undo(), NOT_POSSIBLE);
+    }
+
+    private static void undoOneByOne() {
+        promise = "25";
+        for (int first = 0; first < 8; first++) {
+            ParrotSongs x = told("Sabc;Sbcd;B;B;L0.0;N;L0.1/1;L0.0;L1.0/1", 9);
+            String[] before = new String[6];
+            for (int i = 0; i < 6; i++) {
+                before[i] = seen(x);
+                change(x, (first + i) % 8);
+            }
+            due("six", x.count(13), 6);
+            for (int i = 5; i >= 0; i--) {
+                due("undo", x.undo(), i);
+                Check.holds(promise + ": all is as before the change " + (first + i) % 8, seen(x).equals(before[i]));
+            }
+        }
+    }
+
+    private static void change(ParrotSongs x, int kind) {
+        switch (kind) {
+            case 0: x.practise(0, 3); break;
+            case 1: x.night(); break;
+            case 2: x.set(ParrotSongs.SPAN, 4); break;
+            case 3: x.lesson(0, 1, 0); break;
+            case 4: x.parrot(); break;
+            case 5: x.hush(0); break;
+            case 6: x.lesson(1, 0, 0); break;
+            default: Check.tell(x, "Sxyz;L0.2;N;N;L0.0"); break;
+        }
     }
 
     private static void undoOfEachChange() {
@@ -957,6 +1051,17 @@ public final class PromiseTest {
         due("the slot is not touched", x.restore(0), 2);
         due("heard", x.of(0, 3), 3);
         due("the other slot", x.restore(1), NOT_POSSIBLE);
+        ParrotSongs y = told("Sabc;Sd", 2);
+        y.save(1);
+        y.undo();
+        Check.tell(y, "Sxy");
+        due("two songs again", y.restore(1), 2);
+        due("bars", y.ofSong(0, 0), 3);
+        due("first bar", y.bar(0, 0), 0);
+        due("the other song", y.bar(1, 0), 3);
+        due("undo", y.undo(), 1);
+        due("bars", y.ofSong(0, 0), 2);
+        due("first bar", y.bar(0, 0), 23);
         due("far off", x.restore(Integer.MAX_VALUE), BAD_VALUE);
     }
 }
