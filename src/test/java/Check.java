@@ -14,6 +14,18 @@ final class Check {
         }
     }
 
+    static void due(String call, String got, String want) {
+        asked++;
+        if (!got.equals(want)) {
+            wrong++;
+            System.out.println(call + " answered " + got + ", due is " + want);
+        }
+    }
+
+    static int asked() {
+        return asked;
+    }
+
     static void holds(String claim, boolean holds) {
         due(claim, holds ? 1 : 0, 1);
     }
@@ -36,14 +48,14 @@ final class Check {
     }
 
     /** Puts a text on the pad, 8 characters at a time. */
-    static void write(ParrotSongs x, String text) {
+    static void write(CountedSongs x, String text) {
         for (int i = 0; i < text.length(); i += 8) {
             x.put(packed(text.substring(i, Math.min(text.length(), i + 8))));
         }
     }
 
     /** Puts a text on the pad and carries it out. */
-    static int tell(ParrotSongs x, String text) {
+    static int tell(CountedSongs x, String text) {
         write(x, text);
         return x.carryOut();
     }

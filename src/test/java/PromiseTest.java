@@ -13,13 +13,13 @@ public final class PromiseTest {
     }
 
     /** A new house in which a text was carried out. */
-    private static ParrotSongs told(String text, int orders) {
-        ParrotSongs x = new ParrotSongs();
+    private static CountedSongs told(String text, int orders) {
+        CountedSongs x = new CountedSongs();
         due(text, Check.tell(x, text), orders);
         return x;
     }
 
-    private static void dueLink(ParrotSongs x, int rank, String bars, int strength, int heard) {
+    private static void dueLink(CountedSongs x, int rank, String bars, int strength, int heard) {
         due("link " + rank + " from", x.link(0, rank, 0), bars.charAt(0) - 'a');
         due("link " + rank + " to", x.link(0, rank, 1), bars.charAt(1) - 'a');
         due("link " + rank + " strength", x.link(0, rank, 2), strength);
@@ -57,8 +57,6 @@ public final class PromiseTest {
         carryOut();
         ordersOfTexts();
         undo();
-        undoOfEachChange();
-        undoOneByOne();
         save();
         restore();
         Check.end();
@@ -66,7 +64,7 @@ public final class PromiseTest {
 
     private static void newObject() {
         promise = "1";
-        ParrotSongs x = new ParrotSongs();
+        CountedSongs x = new CountedSongs();
         int[] first = {0, 0, 0, 0, 0, 0, 0, 0, 24, 1, 1, 20, 0, 0};
         for (int what = 0; what < first.length; what++) {
             due("count " + what, x.count(what), first[what]);
@@ -82,7 +80,7 @@ public final class PromiseTest {
     private static void set() {
         promise = "2";
         int[][] ranges = {{4, 60, 24}, {0, 3, 1}, {1, 3, 1}, {1, 60, 20}};
-        ParrotSongs x = new ParrotSongs();
+        CountedSongs x = new CountedSongs();
         for (int i = 0; i < 4; i++) {
             due("least " + i, x.set(i, ranges[i][0]), ranges[i][2]);
             due("most " + i, x.set(i, ranges[i][1]), ranges[i][0]);
@@ -95,7 +93,7 @@ public final class PromiseTest {
         due("setting -1", x.set(-1, 10), BAD_VALUE);
         due("setting 4", x.set(4, 10), BAD_VALUE);
         due("setting far off", x.set(Integer.MAX_VALUE, 10), BAD_VALUE);
-        ParrotSongs y = told("Sabcdefg;B;L0.0", 3);
+        CountedSongs y = told("Sabcdefg;B;L0.0", 3);
         due("set span", y.set(ParrotSongs.SPAN, 4), 24);
         due("links stay", y.of(0, 0), 6);
         due("none is forgotten", y.of(0, 5), 0);
@@ -108,7 +106,7 @@ public final class PromiseTest {
 
     private static void parrot() {
         promise = "3";
-        ParrotSongs x = new ParrotSongs();
+        CountedSongs x = new CountedSongs();
         for (int i = 0; i < 4; i++) {
             due("parrot", x.parrot(), i);
             due("count", x.count(2), i + 1);
@@ -119,7 +117,7 @@ public final class PromiseTest {
         due("fifth", x.parrot(), TOO_MANY);
         due("count", x.count(2), 4);
         due("changes", x.count(13), 4);
-        ParrotSongs y = told("Sab;B;L0.0", 3);
+        CountedSongs y = told("Sab;B;L0.0", 3);
         due("second", y.parrot(), 1);
         due("its memory", y.of(1, 0), 0);
         due("undo", y.undo(), 1);
@@ -132,7 +130,7 @@ public final class PromiseTest {
 
     private static void lesson() {
         promise = "4";
-        ParrotSongs x = told("Sabcde;Sx;B;B", 4);
+        CountedSongs x = told("Sabcde;Sx;B;B", 4);
         due("from", x.lesson(0, 0, 2), 3);
         due("last bar", x.of(0, 2), 4);
         due("today", x.of(0, 3), 3);
@@ -167,7 +165,7 @@ public final class PromiseTest {
 
     private static void lessonsAndLinks() {
         promise = "4";
-        ParrotSongs x = told("Sabc;Scab;B;L0.0;L0.1", 5);
+        CountedSongs x = told("Sabc;Scab;B;L0.0;L0.1", 5);
         due("the last bar leads on", x.of(0, 0), 4);
         dueLink(x, 0, "ab", 2, 1);
         dueLink(x, 1, "ca", 1, 1);
@@ -188,7 +186,7 @@ public final class PromiseTest {
 
     private static void span() {
         promise = "4";
-        ParrotSongs x = told("Sabcde;Szy;B;L0.0;L0.0/1", 5);
+        CountedSongs x = told("Sabcde;Szy;B;L0.0;L0.0/1", 5);
         // ab 1, ea 0, bc 2, cd 2, de 2, eb 1, the freshest ones being eb bc cd de
         x.set(ParrotSongs.SPAN, 5);
         due("five", x.of(0, 0), 5);
@@ -200,7 +198,7 @@ public final class PromiseTest {
         dueLink(x, 1, "de", 2, 1);
         dueLink(x, 4, "eb", 1, 1);
 
-        ParrotSongs y = told("Sabcde;Szy;B;L0.0;H0;L0.0;N", 7);
+        CountedSongs y = told("Sabcde;Szy;B;L0.0;H0;L0.0;N", 7);
         y.set(ParrotSongs.SPAN, 4);
         y.lesson(0, 1, 0);
         due("the new one is the weakest", y.of(0, 0), 4);
@@ -208,7 +206,7 @@ public final class PromiseTest {
         dueLink(y, 0, "de", 2, 0);
         due("but it is the last bar", y.of(0, 2), 24);
 
-        ParrotSongs z = told("Sabcdefgh;B;L0.0;H0", 4);
+        CountedSongs z = told("Sabcdefgh;B;L0.0;H0", 4);
         z.set(ParrotSongs.SPAN, 4);
         due("no link comes or grows", z.lesson(0, 0, 7), 1);
         due("seven", z.of(0, 0), 7);
@@ -221,7 +219,7 @@ public final class PromiseTest {
         dueLink(z, 4, "cd", 1, 1);
         due("forgotten", z.count(6), 2);
 
-        ParrotSongs full = new ParrotSongs();
+        CountedSongs full = new CountedSongs();
         full.set(ParrotSongs.SPAN, 60);
         full.set(ParrotSongs.TIRE, 60);
         Check.tell(full, "B;Sabcdefghijklmnopqrst;Sacegikmoqsuwybdfhjln");
@@ -243,7 +241,7 @@ public final class PromiseTest {
         full.lesson(0, 2, 0);
         due("one for each bar that links", full.of(0, 5), 40);
 
-        ParrotSongs w = told("Sabcdef;Sab;Sde;B;L0.0;H0;L0.1;H0;L0.2;H0", 10);
+        CountedSongs w = told("Sabcdef;Sab;Sde;B;L0.0;H0;L0.1;H0;L0.2;H0", 10);
         w.set(ParrotSongs.SPAN, 4);
         // bc, cd and ef are as strong, and came in this order
         w.lesson(0, 1, 0);
@@ -255,7 +253,7 @@ public final class PromiseTest {
         dueLink(w, 3, "ef", 1, 1);
         due("two forgotten", w.of(0, 5), 2);
 
-        ParrotSongs v = told("Sabcdefg;Sab;B;L0.0;H0;L0.1;H0;L0.0/6", 8);
+        CountedSongs v = told("Sabcdefg;Sab;B;L0.0;H0;L0.1;H0;L0.0/6", 8);
         v.set(ParrotSongs.SPAN, 6);
         // the least fresh ones: bc 1, cd 1, de 1, ef 1, fg 1, ab 2; each one is forgotten just before it is heard
         v.lesson(0, 0, 0);
@@ -265,7 +263,7 @@ public final class PromiseTest {
         dueLink(v, 5, "ab", 3, 1);
         due("and ga, too", v.of(0, 5), 6);
 
-        ParrotSongs u = told("Sabcdefg;Sab;B;L0.1;H0;L0.1;H0;L0.0;H0", 9);
+        CountedSongs u = told("Sabcdefg;Sab;B;L0.1;H0;L0.1;H0;L0.0;H0", 9);
         u.set(ParrotSongs.SPAN, 4);
         // the least fresh one is the strongest one
         u.lesson(0, 0, 5);
@@ -276,7 +274,7 @@ public final class PromiseTest {
 
     private static void hush() {
         promise = "5";
-        ParrotSongs x = told("Sabc;B;B;L0.0", 4);
+        CountedSongs x = told("Sabc;B;B;L0.0", 4);
         due("hush", x.hush(0), 2);
         due("last bar", x.of(0, 2), NONE);
         due("hush again", x.hush(0), NONE);
@@ -293,7 +291,7 @@ public final class PromiseTest {
 
     private static void practise() {
         promise = "6";
-        ParrotSongs x = told("Sabcd;Sa;B;L0.0;L0.1;H0;L0.1", 7);
+        CountedSongs x = told("Sabcd;Sa;B;L0.0;L0.1;H0;L0.1", 7);
         due("three bars, then it goes on", x.practise(0, 5), 5);
         due("last bar", x.of(0, 2), 1);
         due("today", x.of(0, 3), 11);
@@ -316,7 +314,7 @@ public final class PromiseTest {
         due("no last bar", x.practise(0, 1), NOT_POSSIBLE);
         due("bad value comes first", x.practise(0, 41), BAD_VALUE);
 
-        ParrotSongs y = told("Sabc;B;L0.0", 3);
+        CountedSongs y = told("Sabc;B;L0.0", 3);
         due("stops at once", y.practise(0, 3), 0);
         due("is recorded", y.count(13), 2);
         due("hush", y.hush(0), 2);
@@ -327,7 +325,7 @@ public final class PromiseTest {
         due("the freshest one", y.of(0, 2), 0);
 
         // the bars are found first, though it forgets each link on which it goes on just before
-        ParrotSongs z = told("Sabcdefghijklmnopqrst;Sa;B;L0.0;N;L0.1", 6);
+        CountedSongs z = told("Sabcdefghijklmnopqrst;Sa;B;L0.0;N;L0.1", 6);
         z.set(ParrotSongs.SPAN, 4);
         due("found first", z.practise(0, 40), 19);
         due("one forgotten for each bar", z.of(0, 5), 19);
@@ -336,7 +334,7 @@ public final class PromiseTest {
 
     private static void practiceOfOthers() {
         promise = "6";
-        ParrotSongs x = told("Sabcd;Sz;B;B;B;L1.0;L0.1;L1.0/0", 8);
+        CountedSongs x = told("Sabcd;Sz;B;B;B;L1.0;L0.1;L1.0/0", 8);
         due("changes", x.set(ParrotSongs.TIRE, 7), 20);
         // parrot 1 heard a b c d a, was tired by nothing yet, and goes on b c d a b c
         due("five bars so far", x.of(1, 3), 8);
@@ -359,7 +357,7 @@ public final class PromiseTest {
 
     private static void night() {
         promise = "7";
-        ParrotSongs x = told("Sabc;Sbc;B;B;L0.0;L0.1;L1.1", 7);
+        CountedSongs x = told("Sabc;Sbc;B;B;L0.0;L0.1;L1.1", 7);
         due("all were heard", x.night(), 0);
         due("nights", x.count(0), 1);
         due("last bar", x.of(0, 2), NONE);
@@ -382,7 +380,7 @@ public final class PromiseTest {
         due("fades below 0", x.night(), 1);
         due("links", x.of(0, 0), 0);
         due("night", x.night(), 0);
-        ParrotSongs y = told("Sab;B;L0.0;H0;L0.0;H0;L0.0;N", 8);
+        CountedSongs y = told("Sab;B;L0.0;H0;L0.0;H0;L0.0;N", 8);
         y.set(ParrotSongs.FADE, 2);
         due("three less two", y.night(), 0);
         dueLink(y, 0, "ab", 1, 0);
@@ -394,7 +392,7 @@ public final class PromiseTest {
 
     private static void nightsAreLimited() {
         promise = "7";
-        ParrotSongs x = new ParrotSongs();
+        CountedSongs x = new CountedSongs();
         String forty = "N" + ";N".repeat(39);
         for (int i = 0; i < 24; i++) {
             due("forty nights", Check.tell(x, forty), 40);
@@ -409,7 +407,7 @@ public final class PromiseTest {
 
     private static void ofSong() {
         promise = "8";
-        ParrotSongs x = told("Szababq;Sc;Sabcdefghijklmnopqrst;B;B;L1.0;H1;L1.1;L0.0/2", 9);
+        CountedSongs x = told("Szababq;Sc;Sabcdefghijklmnopqrst;B;B;L1.0;H1;L1.1;L0.0/2", 9);
         int[][] wants = {{6, 4, 25, 16, 2, 0}, {1, 1, 2, 2, 1, 3}, {20, 20, 0, 19, 0, 0}};
         for (int song = 0; song < wants.length; song++) {
             for (int what = 0; what < wants[song].length; what++) {
@@ -423,14 +421,14 @@ public final class PromiseTest {
             due("no song", x.ofSong(no, 0), NO_SUCH);
             due("no what", x.ofSong(0, no), BAD_VALUE);
         }
-        ParrotSongs y = told("Sab;B;B;B;B;L1.0;L3.0;S" + "a".repeat(20), 8);
+        CountedSongs y = told("Sab;B;B;B;B;L1.0;L3.0;S" + "a".repeat(20), 8);
         due("known", y.ofSong(0, 5), 2 + 8);
         due("one kind of bar", y.ofSong(1, 1), 1);
     }
 
     private static void bar() {
         promise = "9";
-        ParrotSongs x = told("Saz;Sabcdefghijklmnopqrst", 2);
+        CountedSongs x = told("Saz;Sabcdefghijklmnopqrst", 2);
         due("first", x.bar(0, 0), 0);
         due("last", x.bar(0, 1), 25);
         due("behind", x.bar(0, 2), NO_SUCH);
@@ -448,7 +446,7 @@ public final class PromiseTest {
 
     private static void of() {
         promise = "10";
-        ParrotSongs x = told("Sabc;Sxz;Sd;B;B;L0.0;L0.0;N;L0.1", 9);
+        CountedSongs x = told("Sabc;Sxz;Sd;B;B;L0.0;L0.0;N;L0.1", 9);
         int[][] wants = {{4, 6, 25, 2, 8, 0, 7}, {0, 0, NONE, 0, 0, 0, 4}};
         for (int parrot = 0; parrot < wants.length; parrot++) {
             for (int what = 0; what < wants[parrot].length; what++) {
@@ -471,7 +469,7 @@ public final class PromiseTest {
 
     private static void link() {
         promise = "11";
-        ParrotSongs x = told("Sabca;B;B;L0.0", 4);
+        CountedSongs x = told("Sabca;B;B;L0.0", 4);
         dueLink(x, 0, "ca", 1, 1);
         dueLink(x, 1, "bc", 1, 1);
         dueLink(x, 2, "ab", 1, 1);
@@ -497,7 +495,7 @@ public final class PromiseTest {
 
     private static void sings() {
         promise = "12";
-        ParrotSongs x = told("Sabc;Sad;B;B;L0.0;H0;L0.1;H0", 8);
+        CountedSongs x = told("Sabc;Sad;B;B;L0.0;H0;L0.1;H0", 8);
         due("itself", x.sings(0, 0, 0), 0);
         due("the freshest one", x.sings(0, 0, 1), 3);
         due("stops", x.sings(0, 0, 2), NONE);
@@ -518,24 +516,24 @@ public final class PromiseTest {
         for (int no : NO_INDEX) {
             due("no parrot", x.sings(no, 0, 0), NO_SUCH);
         }
-        ParrotSongs y = told("Sabca;B;L0.0", 3);
+        CountedSongs y = told("Sabca;B;L0.0", 3);
         due("98 steps", y.sings(0, 0, 98), 2);
         due("99 steps", y.sings(0, 0, 99), 0);
         // a weaker link stays behind a stronger one, however fresh it is
-        ParrotSongs z = told("Sab;Sac;B;L0.0;H0;L0.0;H0;L0.1", 8);
+        CountedSongs z = told("Sab;Sac;B;L0.0;H0;L0.0;H0;L0.1", 8);
         due("strength is first", z.sings(0, 0, 1), 1);
     }
 
     private static void knows() {
         promise = "13";
-        ParrotSongs x = told("Sabcd;Se;Sabab;Sabce;B;B;L0.0", 7);
+        CountedSongs x = told("Sabcd;Se;Sabab;Sabce;B;B;L0.0", 7);
         due("whole", x.knows(0, 0), 100);
         due("one bar", x.knows(0, 1), 100);
         due("one of three", x.knows(0, 2), 33);
         due("two of three", x.knows(0, 3), 66);
         due("nothing", x.knows(1, 0), 0);
         due("one bar", x.knows(1, 1), 100);
-        ParrotSongs y = told("Sabcbd;Sbcd;B;L0.0;H0;L0.1", 6);
+        CountedSongs y = told("Sabcbd;Sbcd;B;L0.0;H0;L0.1", 6);
         // a b c, then d, which is wrong; what follows does not count
         due("two of four", y.knows(0, 0), 50);
         due("whole", y.knows(0, 1), 100);
@@ -549,7 +547,7 @@ public final class PromiseTest {
 
     private static void mistake() {
         promise = "14";
-        ParrotSongs x = told("Sabcd;Sbx;Sqbxb;Sbax;B;B;L0.0;H0;L0.1;H0", 10);
+        CountedSongs x = told("Sabcd;Sbx;Sqbxb;Sbax;B;B;L0.0;H0;L0.1;H0", 10);
         due("index", x.mistake(0, 0, 0), 2);
         due("bar", x.mistake(0, 0, 1), 23);
         due("songs with bx", x.mistake(0, 0, 2), 2 + 4);
@@ -567,18 +565,18 @@ public final class PromiseTest {
             due("no what", x.mistake(0, 0, no), BAD_VALUE);
         }
         // the song itself is one in which the wrong bar comes behind the same one, elsewhere
-        ParrotSongs y = told("Sabac;Sacb;B;L0.0", 4);
+        CountedSongs y = told("Sabac;Sacb;B;L0.0", 4);
         due("index", y.mistake(0, 0, 0), 1);
         due("bar", y.mistake(0, 0, 1), 2);
         due("itself, and 1", y.mistake(0, 0, 2), 3);
-        ParrotSongs z = told("Sabc;Sa;Sda;B", 4);
+        CountedSongs z = told("Sabc;Sa;Sda;B", 4);
         due("stops", z.mistake(0, 0, 1), NONE);
         due("a is the last bar of others", z.mistake(0, 0, 2), 0);
     }
 
     private static void rhymes() {
         promise = "15";
-        ParrotSongs x = told("Sabcd;Sxcd;Scd;Sd;Sdc;Sabcd;Sbbcd", 7);
+        CountedSongs x = told("Sabcd;Sxcd;Scd;Sd;Sdc;Sabcd;Sbbcd", 7);
         int[] wants = {4, 2, 2, 1, 0, 4, 3};
         for (int i = 0; i < wants.length; i++) {
             due("0 and " + i, x.rhymes(0, i), wants[i]);
@@ -594,7 +592,7 @@ public final class PromiseTest {
 
     private static void follows() {
         promise = "16";
-        ParrotSongs x = told("Sab;Sbc;Sbd;Sca;B;B;L0.0", 7);
+        CountedSongs x = told("Sab;Sbc;Sbd;Sca;B;B;L0.0", 7);
         due("stops", x.follows(0, 0), 0);
         x.lesson(0, 1, 0);
         due("b is behind b, c behind b is fresher", x.follows(0, 0), 8);
@@ -603,7 +601,7 @@ public final class PromiseTest {
         due("b is behind a", x.follows(0, 3), 2 + 4);
         due("d stops", x.follows(0, 2), 0);
         due("another parrot", x.follows(1, 3), 0);
-        ParrotSongs y = told("Saba;Sb;Sc;B;L0.0", 5);
+        CountedSongs y = told("Saba;Sb;Sc;B;L0.0", 5);
         due("goes on with the song 1", y.follows(0, 0), 2);
         due("goes on with the song 0", y.follows(0, 1), 1);
         for (int no : NO_INDEX) {
@@ -616,7 +614,7 @@ public final class PromiseTest {
 
     private static void count() {
         promise = "17";
-        ParrotSongs x = told("Sabc;Sxz;B;B;B;L0.0;L1.1;N;N;L2.0;L0.1", 11);
+        CountedSongs x = told("Sabc;Sxz;B;B;B;L0.0;L1.1;N;N;L2.0;L0.1", 11);
         x.set(ParrotSongs.TIRE, 2);
         x.set(ParrotSongs.SPAN, 25);
         x.set(ParrotSongs.GAIN, 2);
@@ -629,7 +627,7 @@ public final class PromiseTest {
         due("what -1", x.count(-1), BAD_VALUE);
         due("what 14", x.count(14), BAD_VALUE);
         due("far off", x.count(Integer.MIN_VALUE), BAD_VALUE);
-        ParrotSongs y = told("Sabc;Sb;Sc;Sd;Se;Sf;Sg;Sabd;B;B;B;B;L0.7;L1.7;L2.7;L3.7;L3.0/1", 17);
+        CountedSongs y = told("Sabc;Sb;Sc;Sd;Se;Sf;Sg;Sabd;B;B;B;B;L0.7;L1.7;L2.7;L3.7;L3.0/1", 17);
         y.set(ParrotSongs.TIRE, 3);
         int[] full = {0, 8, 4, 5, 14, 10, 0, 15};
         for (int what = 0; what < full.length; what++) {
@@ -645,7 +643,7 @@ public final class PromiseTest {
 
     private static void lessonsFor() {
         promise = "18";
-        ParrotSongs x = told("Sabc;Sabd;Sx;Sabac;B;B", 6);
+        CountedSongs x = told("Sabc;Sabd;Sx;Sabac;B;B", 6);
         due("one", x.lessonsFor(0, 0), 1);
         due("one bar", x.lessonsFor(0, 2), 0);
         due("never", x.lessonsFor(0, 3), NONE);
@@ -663,7 +661,7 @@ public final class PromiseTest {
         due("grows faster", x.lessonsFor(0, 1), 1);
         due("another parrot", x.lessonsFor(1, 1), 1);
         x.set(ParrotSongs.SPAN, 4);
-        ParrotSongs y = told("Sabcdef;B;L0.0;H0", 4);
+        CountedSongs y = told("Sabcdef;B;L0.0;H0", 4);
         y.set(ParrotSongs.SPAN, 4);
         due("the first link is forgotten", y.lessonsFor(0, 0), 0);
         due("hushed ahead of each one", told("Sab;Saaaa;B;L0.1", 4).lessonsFor(0, 0), 3);
@@ -679,7 +677,7 @@ public final class PromiseTest {
 
     private static void bestLesson() {
         promise = "19";
-        ParrotSongs x = told("Sabcde;Sabc;Sx;Sbcd;B;B", 6);
+        CountedSongs x = told("Sabcde;Sabc;Sx;Sbcd;B;B", 6);
         due("the song", x.bestLesson(0, 0), 0);
         due("all of them", x.bestLesson(0, 1), 400);
         due("now", x.knows(0, 0), 0);
@@ -695,7 +693,7 @@ public final class PromiseTest {
             due("no what", x.bestLesson(0, no), BAD_VALUE);
         }
         due("no songs", told("B", 1).bestLesson(0, 0), NONE);
-        ParrotSongs y = told("Sxy;Sab;Scd;B", 4);
+        CountedSongs y = told("Sxy;Sab;Scd;B", 4);
         due("of several the lowest one", y.bestLesson(0, 0), 0);
         due("together", y.bestLesson(0, 1), 100);
         y.set(ParrotSongs.TIRE, 1);
@@ -704,7 +702,7 @@ public final class PromiseTest {
         due("being tired does not matter", y.bestLesson(0, 0), 0);
         due("nothing changes", y.of(0, 4), 1);
         // without a hush the link from the last bar comes, too
-        ParrotSongs z = told("Sab;Sba;B;L0.1/1", 4);
+        CountedSongs z = told("Sab;Sba;B;L0.1/1", 4);
         due("ab comes ahead of ba", z.bestLesson(0, 0), 1);
         due("both are known", z.bestLesson(0, 1), 200);
         z.lesson(0, 0, 1);
@@ -714,7 +712,7 @@ public final class PromiseTest {
 
     private static void keeps() {
         promise = "20";
-        ParrotSongs x = told("Sab;Scd;Sx;B;B;L0.0;H0;L0.0;H0", 9);
+        CountedSongs x = told("Sab;Scd;Sx;B;B;L0.0;H0;L0.0;H0", 9);
         due("strength 2, heard today", x.keeps(0, 0), 3);
         due("not now", x.keeps(0, 1), 0);
         due("one bar", x.keeps(0, 2), NONE);
@@ -728,7 +726,7 @@ public final class PromiseTest {
         due("for ever", x.keeps(0, 0), NONE);
         due("another parrot", x.keeps(1, 0), 0);
         // ab was heard more often, ac was heard today
-        ParrotSongs y = told("Sab;Sac;B;L0.0;H0;L0.0;N;L0.1;H0", 9);
+        CountedSongs y = told("Sab;Sac;B;L0.0;H0;L0.0;N;L0.1;H0", 9);
         due("ab until ac is as strong", y.knows(0, 0), 100);
         due("ac is the freshest one", y.keeps(0, 0), 1);
         for (int no : NO_INDEX) {
@@ -741,7 +739,7 @@ public final class PromiseTest {
 
     private static void put() {
         promise = "21";
-        ParrotSongs x = new ParrotSongs();
+        CountedSongs x = new CountedSongs();
         due("one", x.put(Check.packed("S")), 1);
         due("eight", x.put(Check.packed("abcdefgh")), 9);
         due("order", x.fault(), NONE);
@@ -777,7 +775,7 @@ public final class PromiseTest {
 
     private static void wipe() {
         promise = "22";
-        ParrotSongs x = new ParrotSongs();
+        CountedSongs x = new CountedSongs();
         due("empty", x.wipe(), 0);
         Check.write(x, "B;B;B;B;B");
         due("nine", x.wipe(), 9);
@@ -790,7 +788,7 @@ public final class PromiseTest {
     }
 
     private static void dueFault(String text, int want) {
-        ParrotSongs x = new ParrotSongs();
+        CountedSongs x = new CountedSongs();
         Check.write(x, text);
         due("fault of " + text, x.fault(), want);
         due("carryOut of " + text, want == NONE ? 0 : x.carryOut(), want == NONE ? 0 : BAD_TEXT);
@@ -827,7 +825,7 @@ public final class PromiseTest {
 
     private static void carryOut() {
         promise = "24";
-        ParrotSongs x = new ParrotSongs();
+        CountedSongs x = new CountedSongs();
         due("empty", x.carryOut(), BAD_TEXT);
         due("nothing recorded", x.count(13), 0);
         Check.write(x, "Sabc;B;L0.0");
@@ -860,7 +858,7 @@ public final class PromiseTest {
 
     private static void ordersOfTexts() {
         promise = "24";
-        ParrotSongs x = told("Sa;Sb;Sc;Sd;Se;Sf;Sg;Sabcdefghijklmnopqrst;Sh;B", 8);
+        CountedSongs x = told("Sa;Sb;Sc;Sd;Se;Sf;Sg;Sabcdefghijklmnopqrst;Sh;B", 8);
         due("no ninth song", x.count(1), 8);
         due("no parrot", x.count(2), 0);
         due("no fifth parrot", Check.tell(x, "B;B;B;B;B"), 4);
@@ -887,7 +885,7 @@ public final class PromiseTest {
 
     private static void undo() {
         promise = "25";
-        ParrotSongs x = new ParrotSongs();
+        CountedSongs x = new CountedSongs();
         for (int i = 0; i < 4; i++) {
             x.parrot();
         }
@@ -909,7 +907,7 @@ public final class PromiseTest {
         due("the pad stays", x.count(12), 3);
         due("the slot stays", x.restore(0), 0);
         due("parrots", x.count(2), 3);
-        ParrotSongs y = new ParrotSongs();
+        CountedSongs y = new CountedSongs();
         for (int i = 0; i < 9; i++) {
             y.night();
             due("an error records nothing", y.hush(0), NO_SUCH);
@@ -921,90 +919,9 @@ public final class PromiseTest {
         due("no more", y.undo(), NOT_POSSIBLE);
     }
 
-    private static void undoOneByOne() {
-        promise = "25";
-        for (int first = 0; first < 8; first++) {
-            ParrotSongs x = told("Sabc;Sbcd;B;B;L0.0;N;L0.1/1;L0.0;L1.0/1", 9);
-            String[] before = new String[6];
-            for (int i = 0; i < 6; i++) {
-                before[i] = seen(x);
-                change(x, (first + i) % 8);
-            }
-            due("six", x.count(13), 6);
-            for (int i = 5; i >= 0; i--) {
-                due("undo", x.undo(), i);
-                Check.holds(promise + ": all is as before the change " + (first + i) % 8, seen(x).equals(before[i]));
-            }
-        }
-    }
-
-    private static void change(ParrotSongs x, int kind) {
-        switch (kind) {
-            case 0: x.practise(0, 3); break;
-            case 1: x.night(); break;
-            case 2: x.set(ParrotSongs.SPAN, 4); break;
-            case 3: x.lesson(0, 1, 0); break;
-            case 4: x.parrot(); break;
-            case 5: x.hush(0); break;
-            case 6: x.lesson(1, 0, 0); break;
-            default: Check.tell(x, "Sxyz;L0.2;N;N;L0.0"); break;
-        }
-    }
-
-    private static void undoOfEachChange() {
-        promise = "25";
-        ParrotSongs x = told("Sabc;Sbcd;B;B;L0.0;N;L0.1/1;L0.0;L1.0/1", 9);
-        String before = seen(x);
-        x.set(ParrotSongs.GAIN, 3);
-        dueBack(x, before, "set");
-        x.parrot();
-        dueBack(x, before, "parrot");
-        x.lesson(0, 1, 0);
-        dueBack(x, before, "lesson");
-        x.hush(0);
-        dueBack(x, before, "hush");
-        due("practise", x.practise(0, 9), 9);
-        dueBack(x, before, "practise");
-        x.night();
-        dueBack(x, before, "night");
-        Check.tell(x, "Sxyz;L0.2;N;B;L1.0;P1*3");
-        dueBack(x, before, "carryOut");
-        x.save(1);
-        x.night();
-        x.restore(1);
-        due("undo", x.undo(), 2);
-        dueBack(x, before, "restore");
-    }
-
-    /** Undoes a change, which has to be seen, and looks whether all is as before. */
-    private static void dueBack(ParrotSongs x, String before, String change) {
-        Check.holds(promise + ": " + change + " is seen", !seen(x).equals(before));
-        due("undo of " + change, x.undo(), 1);
-        Check.holds(promise + ": all is as before " + change, seen(x).equals(before));
-    }
-
-    /** What there is, as a text: all that undo brings back. */
-    private static String seen(ParrotSongs x) {
-        StringBuilder all = new StringBuilder();
-        for (int what = 0; what <= 11; what++) {
-            all.append(x.count(what)).append(' ');
-        }
-        for (int i = 0; i < 4; i++) {
-            for (int what = 0; what <= 6; what++) {
-                all.append(x.of(i, what)).append(' ').append(x.ofSong(i, what)).append(' ');
-            }
-            for (int rank = 0; rank < 8; rank++) {
-                for (int what = 0; what < 4; what++) {
-                    all.append(x.link(i, rank, what)).append(' ');
-                }
-            }
-        }
-        return all.toString();
-    }
-
     private static void save() {
         promise = "26";
-        ParrotSongs x = new ParrotSongs();
+        CountedSongs x = new CountedSongs();
         due("nothing there", x.save(1), 0);
         due("slot 2", x.save(2), BAD_VALUE);
         due("slot -1", x.save(-1), BAD_VALUE);
@@ -1024,7 +941,7 @@ public final class PromiseTest {
 
     private static void restore() {
         promise = "27";
-        ParrotSongs x = told("Sabc;Sd;B;L0.0", 4);
+        CountedSongs x = told("Sabc;Sd;B;L0.0", 4);
         due("slot 2", x.restore(2), BAD_VALUE);
         due("slot -1", x.restore(-1), BAD_VALUE);
         due("nothing saved", x.restore(0), NOT_POSSIBLE);
@@ -1051,7 +968,7 @@ public final class PromiseTest {
         due("the slot is not touched", x.restore(0), 2);
         due("heard", x.of(0, 3), 3);
         due("the other slot", x.restore(1), NOT_POSSIBLE);
-        ParrotSongs y = told("Sabc;Sd", 2);
+        CountedSongs y = told("Sabc;Sd", 2);
         y.save(1);
         y.undo();
         Check.tell(y, "Sxy");

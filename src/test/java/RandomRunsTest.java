@@ -2,7 +2,9 @@ import java.util.Random;
 
 /** Long runs of calls, the same ones each time, whose answers are compared with those of PlainModel. */
 public final class RandomRunsTest {
-    private static final int RUNS = 600, CALLS = 512;
+    private static final int RUNS = 1000;
+    /** The most calls that one question may take: a long text is put, looked at and carried out. */
+    private static final int MOST_AT_ONCE = 24;
     private static final String[] NAMES = {
         "set", "parrot", "lesson", "hush", "practise", "night", "ofSong", "bar", "of", "link", "sings", "knows",
         "mistake", "rhymes", "follows", "count", "lessonsFor", "bestLesson", "keeps", "put", "wipe", "fault",
@@ -13,7 +15,7 @@ public final class RandomRunsTest {
         8, 6, 2, 3};
 
     private final Random random;
-    private final ParrotSongs real = new ParrotSongs();
+    private final CountedSongs real = new CountedSongs();
     private final PlainModel plain = new PlainModel();
     private final int letters;
     private final int most;
@@ -32,7 +34,7 @@ public final class RandomRunsTest {
     }
 
     private void run(int seed) {
-        for (int i = 0; i < CALLS; i++) {
+        for (int i = 0; real.calls() <= CountedSongs.MOST - MOST_AT_ONCE; i++) {
             ask("run " + seed + ", call " + i + ": ", i < 4 ? 22 : pick());
         }
     }
