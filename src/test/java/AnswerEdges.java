@@ -246,7 +246,8 @@ final class AnswerEdges extends Edges {
 
     // ---- 11: link
 
-    @Sentence(of = "Promise 11", says = "Returns something about a link of a parrot. - `rank`: 0 for the freshest one, and so on")
+    @Sentence(of = "Promise 11",
+            says = "Returns something about a link of a parrot. - `rank`: 0 for the freshest one, and so on")
     static void ranksByFreshness() {
         CountedSongs x = told("Sabcd;B;L0.0;H0;L0.0/1");
         due("bc and cd grew, ab did not", links(x, 0), "cd2* bc2* ab1*");
@@ -307,7 +308,8 @@ final class AnswerEdges extends Edges {
         dueRange(() -> told("Sab;B;L0.0"), 0, 3, (x, what) -> x.link(0, 0, what));
     }
 
-    @Sentence(of = "Promise 11", says = "NO_SUCH if there is no such parrot, or link; BAD_VALUE if what is out of range.")
+    @Sentence(of = "Promise 11",
+            says = "NO_SUCH if there is no such parrot, or link; BAD_VALUE if what is out of range.")
     static void errorsOfLinkInTheirOrder() {
         CountedSongs x = told("Sab;B;L0.0");
         due("no parrot, what", x.link(1, 0, 4), NO_SUCH);
@@ -318,7 +320,8 @@ final class AnswerEdges extends Edges {
 
     // ---- 12: sings
 
-    @Sentence(of = "Promise 12", says = "Returns the bar that a parrot sings some bars behind a bar, if it goes on from that.")
+    @Sentence(of = "Promise 12",
+            says = "Returns the bar that a parrot sings some bars behind a bar, if it goes on from that.")
     static void barsBehindABar() {
         CountedSongs x = told("Sabcd;Sz;B;L0.0;L0.1");
         for (int bar = 0; bar < 4; bar++) {
@@ -383,7 +386,8 @@ final class AnswerEdges extends Edges {
         due("no memory", x.sings(1, 0, 1), NONE);
     }
 
-    @Sentence(of = "Promise 12", says = "NO_SUCH if there is no such parrot; BAD_VALUE if bar or steps is out of range; "
+    @Sentence(of = "Promise 12",
+            says = "NO_SUCH if there is no such parrot; BAD_VALUE if bar or steps is out of range; "
             + "NONE if it has stopped by then.")
     static void errorsOfSingsInTheirOrder() {
         CountedSongs x = told("B");
@@ -414,7 +418,8 @@ final class AnswerEdges extends Edges {
 
     // ---- 14: mistake
 
-    @Sentence(of = "Promise 14", says = "Tells about the first mistake of a parrot, when it goes on from the first bar of a song. "
+    @Sentence(of = "Promise 14",
+            says = "Tells about the first mistake of a parrot, when it goes on from the first bar of a song. "
             + "- `what`: 0 the index of the bar in the song that is not right,")
     static void theFirstMistake() {
         for (int right = 0; right < 19; right++) {
@@ -484,7 +489,8 @@ final class AnswerEdges extends Edges {
         }
     }
 
-    @Sentence(of = "Promise 14", says = "NO_SUCH if there is no such parrot or song; BAD_VALUE if what is out of range; "
+    @Sentence(of = "Promise 14",
+            says = "NO_SUCH if there is no such parrot or song; BAD_VALUE if what is out of range; "
             + "NOT_POSSIBLE if it knows the song by 100 hundredths.")
     static void errorsOfMistakeInTheirOrder() {
         CountedSongs x = told("Sz;B");
@@ -497,7 +503,8 @@ final class AnswerEdges extends Edges {
 
     // ---- 15: rhymes
 
-    @Sentence(of = "Promise 15", says = "Tells by how many of their last bars two songs rhyme: the same ones, from the end on. "
+    @Sentence(of = "Promise 15",
+            says = "Tells by how many of their last bars two songs rhyme: the same ones, from the end on. "
             + "Returns how many;")
     static void sameBarsFromTheEndOn() {
         CountedSongs x = told("Sabcd;Sbcd;Sd;Scd;Sabxd;Sabcx;Sxbcd;Sdabcd");
@@ -542,7 +549,9 @@ final class AnswerEdges extends Edges {
         due("stops behind b", x.follows(0, 0), 0);
         due("goes on behind a", x.follows(0, 1), 2);
         due("no memory", x.follows(1, 1), 0);
-        due("goes on to a bar with which none begins", told("Sab;Sac;B;L0.1").follows(0, 0) + told("Szb;Sbx;B;L0.1").follows(0, 0), 0);
+        CountedSongs y = told("Sab;Sbx;B;L0.1");
+        due("goes on to x, with which none begins", y.follows(0, 0), 0);
+        due("stops behind x", y.follows(0, 1), 0);
     }
 
     @Sentence(of = "Promise 16", says = "NO_SUCH if there is no such parrot or song.")
@@ -792,7 +801,8 @@ final class AnswerEdges extends Edges {
         }
     }
 
-    @Sentence(of = "Promise 19", says = "NO_SUCH if there is no such parrot; BAD_VALUE if what is neither; NONE if none helps.")
+    @Sentence(of = "Promise 19",
+            says = "NO_SUCH if there is no such parrot; BAD_VALUE if what is neither; NONE if none helps.")
     static void errorsOfBestLessonInTheirOrder() {
         CountedSongs x = told("B");
         due("no parrot, what", x.bestLesson(1, 2), NO_SUCH);
@@ -804,7 +814,8 @@ final class AnswerEdges extends Edges {
 
     // ---- 20: keeps
 
-    @Sentence(of = "Promise 20", says = "Tells how many nights a parrot knows a song by 100 hundredths yet, if it hears nothing more: "
+    @Sentence(of = "Promise 20",
+            says = "Tells how many nights a parrot knows a song by 100 hundredths yet, if it hears nothing more: "
             + "the number of nights behind which it does not any more.")
     static void nightsUntilALinkIsForgotten() {
         for (int strength = 1; strength <= 9; strength++) {
@@ -830,6 +841,15 @@ final class AnswerEdges extends Edges {
         due("ab and bc", told("Sabcd;Sabc;B;L0.0;H0;L0.1;H0;L0.1;N").keeps(0, 1), 3);
         due("ac was heard today, and is as strong behind a night",
                 told("Sab;Sac;B;L0.0;H0;L0.0;N;L0.1").keeps(0, 0), 1);
+    }
+
+    @Sentence(of = "Promise 20",
+            says = "Tells how many nights a parrot knows a song by 100 hundredths yet, if it hears nothing more:")
+    static void nightsThatOneCanOnlyAskOf() {
+        CountedSongs x = TermsEdges.oldHouse();
+        tell(x, "Sab;B;L0.0");
+        due("no more nights", x.night(), NOT_POSSIBLE);
+        due("two, if they came", x.keeps(0, 0), 2);
     }
 
     @Sentence(of = "Promise 20", says = "Returns how many (0 if it does not now);")

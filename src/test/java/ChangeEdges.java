@@ -244,7 +244,8 @@ final class ChangeEdges extends Edges {
         due("another day", x.lesson(0, 0, 0), 3);
     }
 
-    @Sentence(of = "Promise 4", says = "NO_SUCH if there is no such parrot or song; BAD_VALUE if the song has no bar with the index from; "
+    @Sentence(of = "Promise 4",
+            says = "NO_SUCH if there is no such parrot or song; BAD_VALUE if the song has no bar with the index from; "
             + "NOT_POSSIBLE if the parrot is tired.")
     static void errorsOfLessonInTheirOrder() {
         CountedSongs x = told("Sab;B;L0.0");
@@ -305,7 +306,8 @@ final class ChangeEdges extends Edges {
 
     // ---- 6: practise
 
-    @Sentence(of = "Promise 6", says = "A parrot practises: it goes on from its last bar, for so many bars, or until it stops.")
+    @Sentence(of = "Promise 6",
+            says = "A parrot practises: it goes on from its last bar, for so many bars, or until it stops.")
     static void practiceEndsWithTheBarsOrTheLinks() {
         for (int bars = 1; bars <= 5; bars++) {
             CountedSongs x = told("Sabcd;Sa;B;L0.0;H0;L0.1");
@@ -372,6 +374,16 @@ final class ChangeEdges extends Edges {
         due("behind nothing", links(x, 2), "cd1* bc1*");
         due("itself", links(x, 1), "cd2* bc2* ab2*");
         due("no lesson", x.count(3), 3);
+    }
+
+    @Sentence(of = "Promise 6", says = "then it hears them itself, one after the other,")
+    static void practiceIsHeardAsALessonIs() {
+        CountedSongs x = told("Sabc;Sa;Svwxyz;B;B;L0.0;H0;L1.2;H1;L0.1");
+        x.set(GAIN, 3);
+        x.set(SPAN, 4);
+        due("sings b c", x.practise(0, 2), 2);
+        due("two links grow by GAIN", links(x, 0), "bc4* ab4*");
+        due("one comes with GAIN, and one beyond SPAN is forgotten", links(x, 1), "bc3* yz1* xy1* wx1*");
     }
 
     @Sentence(of = "Promise 6", says = "This is a change.")
@@ -473,7 +485,8 @@ final class ChangeEdges extends Edges {
 
     // ---- 7: night
 
-    @Sentence(of = "Promise 7", says = "A night passes: each link that was not heard in the day that ends has FADE less strength,")
+    @Sentence(of = "Promise 7",
+            says = "A night passes: each link that was not heard in the day that ends has FADE less strength,")
     static void onlyWhatWasNotHeardFades() {
         CountedSongs x = told("Sabcd;Sbc;B;L0.0;H0;L0.0;H0;L0.0;N;L0.1");
         due("heard", links(x, 0), "bc4* cd3 ab3");

@@ -140,7 +140,7 @@ abstract class Edges {
         }
     }
 
-    /** From 0 to the most the call has an answer, on both sides of that BAD_VALUE. */
+    /** From the least to the most, in a new house each time, the call has an answer; on both sides of that BAD_VALUE. */
     static void dueRange(Supplier<CountedSongs> made, int least, int most, Asking asking) {
         for (int number = least; number <= most; number++) {
             int answer = asking.ask(made.get(), number);

@@ -5,8 +5,8 @@ import java.util.Comparator;
 import java.util.List;
 
 /**
- * For each sentence of the document a test of its own, which bears the sentence. A sentence in which a test says
- * something that the document doesn't, or that no test bears, fails, too.
+ * Runs the tests of single sentences, each of which bears its sentence. It fails, too, if the document doesn't say
+ * what a test bears, or says something that no test bears.
  */
 public final class EdgesTest {
     private static final List<Class<?>> GROUPS = List.of(TermsEdges.class, ChangeEdges.class, AnswerEdges.class, TextEdges.class);

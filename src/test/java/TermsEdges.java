@@ -36,7 +36,8 @@ final class TermsEdges extends Edges {
 
     // ---- CONVENTIONS
 
-    @Sentence(of = "Terms", says = "CONVENTIONS. A method that fails returns one of the error codes NO_SUCH (-1), BAD_VALUE (-2), BAD_TEXT (-3), "
+    @Sentence(of = "Terms",
+            says = "CONVENTIONS. A method that fails returns one of the error codes NO_SUCH (-1), BAD_VALUE (-2), BAD_TEXT (-3), "
             + "TOO_MANY (-4) and NOT_POSSIBLE (-5);")
     static void eachErrorHasItsCode() {
         CountedSongs x = told("B;B;B;B");
@@ -269,7 +270,8 @@ final class TermsEdges extends Edges {
 
     // ---- the constants, and what the interface says ahead of the calls
 
-    @Sentence(of = "Texts", says = "The constants: `NO_SUCH = -1, BAD_VALUE = -2, BAD_TEXT = -3, TOO_MANY = -4, NOT_POSSIBLE = -5, "
+    @Sentence(of = "Texts",
+            says = "The constants: `NO_SUCH = -1, BAD_VALUE = -2, BAD_TEXT = -3, TOO_MANY = -4, NOT_POSSIBLE = -5, "
             + "NONE = -6`: Error codes, and NONE: there is none.")
     static void errorsAndNone() throws ReflectiveOperationException {
         String[] names = {"NO_SUCH", "BAD_VALUE", "BAD_TEXT", "TOO_MANY", "NOT_POSSIBLE", "NONE"};
@@ -301,7 +303,8 @@ final class TermsEdges extends Edges {
         due("recorded", x.count(13), 6);
     }
 
-    @Sentence(of = "Texts", says = "Ahead of the calls `ofSong`, `bar`, `of`, `link`, `sings`, `knows`, `mistake`, `rhymes`, `follows`, "
+    @Sentence(of = "Texts",
+            says = "Ahead of the calls `ofSong`, `bar`, `of`, `link`, `sings`, `knows`, `mistake`, `rhymes`, `follows`, "
             + "`count` the interface says: ---- what there is.")
     static void questionsChangeNothing() {
         Map<String, ToIntFunction<CountedSongs>> calls = new LinkedHashMap<>();
@@ -323,7 +326,8 @@ final class TermsEdges extends Edges {
         dueUnchanged(() -> busy("Szz;N;B"), calls, false);
     }
 
-    @Sentence(of = "Texts", says = "Ahead of the calls `lessonsFor`, `bestLesson`, `keeps` the interface says: ---- what if; "
+    @Sentence(of = "Texts",
+            says = "Ahead of the calls `lessonsFor`, `bestLesson`, `keeps` the interface says: ---- what if; "
             + "nothing changes (being tired does not matter here).")
     static void whatIfChangesNothing() {
         Map<String, ToIntFunction<CountedSongs>> calls = new LinkedHashMap<>();
@@ -353,7 +357,8 @@ final class TermsEdges extends Edges {
         due("tired by the first bar of four", x.bestLesson(0, 1), 200);
     }
 
-    @Sentence(of = "Texts", says = "Ahead of the calls `put`, `wipe`, `fault`, `carryOut` the interface says: ---- texts.")
+    @Sentence(of = "Texts",
+            says = "Ahead of the calls `put`, `wipe`, `fault`, `carryOut` the interface says: ---- texts.")
     static void whatIsPutAndWipedIsNotRecorded() {
         CountedSongs x = told("Sab;B");
         String before = seen(x);
@@ -367,7 +372,8 @@ final class TermsEdges extends Edges {
         due("recorded", x.count(13), 2);
     }
 
-    @Sentence(of = "Texts", says = "Ahead of the calls `undo`, `save`, `restore` the interface says: ---- undo, saving.")
+    @Sentence(of = "Texts",
+            says = "Ahead of the calls `undo`, `save`, `restore` the interface says: ---- undo, saving.")
     static void undoAndSaveAreNotRecorded() {
         CountedSongs x = told("Sab", "B");
         due("save", x.save(0), 1);
@@ -559,7 +565,8 @@ final class TermsEdges extends Edges {
         due("no other", x.hush(4), NO_SUCH);
     }
 
-    @Sentence(of = "Songs, parrots", says = "A parrot has a memory of links, the last bar that it heard (NONE at first), "
+    @Sentence(of = "Songs, parrots",
+            says = "A parrot has a memory of links, the last bar that it heard (NONE at first), "
             + "and bars that it heard today.")
     static void eachParrotHasItsOwn() {
         CountedSongs x = told("Sabc;B;B;B;B");
@@ -594,7 +601,8 @@ final class TermsEdges extends Edges {
         due("none above", grown(1, 10), 9);
     }
 
-    @Sentence(of = "Songs, parrots", says = "To hear a bar: if the parrot has a last bar, the link from that one to this bar grows:")
+    @Sentence(of = "Songs, parrots",
+            says = "To hear a bar: if the parrot has a last bar, the link from that one to this bar grows:")
     static void theFirstBarThatIsHeardMakesNoLink() {
         CountedSongs x = told("Sa;Sb;B;L0.0");
         due("no link", x.of(0, 0), 0);
@@ -623,6 +631,15 @@ final class TermsEdges extends Edges {
         }
     }
 
+    @Sentence(of = "Songs, parrots", says = "in both cases it is the freshest one then, and was heard today.")
+    static void whatCantGrowAnyMoreIsTheFreshestYet() {
+        CountedSongs x = told("Saaaaaaaaaa;Saz;B;L0.0;H0;L0.1;N");
+        due("the strongest is not the freshest", links(x, 0), "az1 aa9");
+        x.set(TIRE, 2);
+        tell(x, "L0.0");
+        due("heard, though it did not grow", links(x, 0), "aa9* az1");
+    }
+
     @Sentence(of = "Songs, parrots", says = "if there is none, it comes, with the strength GAIN;")
     static void linksComeWithGain() {
         for (int gain = 1; gain <= 3; gain++) {
@@ -644,7 +661,8 @@ final class TermsEdges extends Edges {
         due("the freshest one already", links(x, 0), "cd4* bc3* da1* ab3*");
     }
 
-    @Sentence(of = "Songs, parrots", says = "If there are more than SPAN links then (whether one came or only grew), one is forgotten:")
+    @Sentence(of = "Songs, parrots",
+            says = "If there are more than SPAN links then (whether one came or only grew), one is forgotten:")
     static void asManyLinksAsSpanAreKept() {
         CountedSongs x = told("Sabcde;B");
         x.set(SPAN, 4);
@@ -784,7 +802,8 @@ final class TermsEdges extends Edges {
         due("no practice", x.practise(0, 9), 0);
     }
 
-    @Sentence(of = "Singing", says = "It knows a song by so many bars as are right, one after the other, behind the first one, "
+    @Sentence(of = "Singing",
+            says = "It knows a song by so many bars as are right, one after the other, behind the first one, "
             + "when it goes on from the first bar of the song;")
     static void rightBarsUpToTheFirstWrongOne() {
         CountedSongs x = told("Sabcd;Saxcd;B;L0.1");

@@ -106,7 +106,8 @@ final class TextEdges extends Edges {
         dueFault("N:N", 1);
     }
 
-    @Sentence(of = "Texts", says = "order = \"S\" letter { letter } | \"B\" | \"L\" digit \".\" digit [ \"/\" number ] | \"H\" digit | "
+    @Sentence(of = "Texts",
+            says = "order = \"S\" letter { letter } | \"B\" | \"L\" digit \".\" digit [ \"/\" number ] | \"H\" digit | "
             + "\"P\" digit \"*\" number | \"N\" ```")
     static void eachSignOfOrders() {
         dueNext("([BNS].*;)?([A-Z].?)?");
@@ -289,7 +290,8 @@ final class TextEdges extends Edges {
         due("wiped", x.fault(), 0);
     }
 
-    @Sentence(of = "Texts", says = "Orders of songs return TOO_MANY if there are 8 songs, otherwise the number of the song.")
+    @Sentence(of = "Texts",
+            says = "Orders of songs return TOO_MANY if there are 8 songs, otherwise the number of the song.")
     static void theNinthSongEndsTheText() {
         CountedSongs x = new CountedSongs();
         due("eight songs, and no ninth one", Check.tell(x, "Sa;Sb;Sc;Sd;Se;Sf;Sg;Sh;Si;B"), 8);
@@ -334,7 +336,8 @@ final class TextEdges extends Edges {
         }
     }
 
-    @Sentence(of = "Promise 21", says = "8 bits that are 0 mean that there are no more characters, and everything above them has to be 0, too.")
+    @Sentence(of = "Promise 21",
+            says = "8 bits that are 0 mean that there are no more characters, and everything above them has to be 0, too.")
     static void noCharactersAboveZeros() {
         for (int size = 1; size <= 8; size++) {
             long right = Check.packed("BBBBBBBB".substring(0, size));
@@ -410,7 +413,8 @@ final class TextEdges extends Edges {
         }
     }
 
-    @Sentence(of = "Promise 21", says = "BAD_VALUE if there is no character, a code is not 33 to 126, or a bit above 8 bits that are 0 is not 0; "
+    @Sentence(of = "Promise 21",
+            says = "BAD_VALUE if there is no character, a code is not 33 to 126, or a bit above 8 bits that are 0 is not 0; "
             + "TOO_MANY if the pad would be longer than 80.")
     static void errorsOfPutInTheirOrder() {
         CountedSongs x = written("N".repeat(80));
@@ -576,7 +580,8 @@ final class TextEdges extends Edges {
         return seen(x);
     }
 
-    @Sentence(of = "Promise 25", says = "Undoes the latest change: everything except the pad, the slots and the history is as it was before it.")
+    @Sentence(of = "Promise 25",
+            says = "Undoes the latest change: everything except the pad, the slots and the history is as it was before it.")
     static void eachChangeIsUndone() {
         for (int change = 0; change < CHANGES.size(); change++) {
             CountedSongs x = scene();
@@ -629,6 +634,21 @@ final class TextEdges extends Edges {
         due("no song", x.count(1), 0);
         due("saved with two", x.restore(0), 2);
         due("saved with one", x.restore(1), 1);
+    }
+
+    @Sentence(of = "Promise 25", says = "is as it was before it.")
+    static void otherSongsOfTheSameNumberAreUndone() {
+        CountedSongs x = told("Sabc;Sz");
+        x.save(0);
+        x.undo();
+        tell(x, "Sde;Sfgh;B;L0.1");
+        String before = seen(x);
+        due("songs of the slot", x.restore(0), 2);
+        due("undo", x.undo(), 1);
+        due("d e, and f g h", seen(x), before);
+        due("first bar", x.bar(0, 0), 3);
+        due("two bars", x.ofSong(0, 0), 2);
+        due("one lesson", x.ofSong(1, 4), 1);
     }
 
     @Sentence(of = "Promise 25", says = "and the history is as it was before it.")
@@ -836,6 +856,20 @@ final class TextEdges extends Edges {
         due("undone: what was there", x.count(8), 4);
         due("restore", x.restore(1), 1);
         due("all", seen(x), saved);
+    }
+
+    @Sentence(of = "Promise 27", says = "Restores what was saved last in a slot,")
+    static void otherSongsOfTheSameNumberAreReplaced() {
+        CountedSongs x = told("Sabc;Sz");
+        x.save(0);
+        String saved = seen(x);
+        x.undo();
+        tell(x, "Sde;Sfgh;Sij;B;L0.1");
+        due("songs", x.restore(0), 2);
+        due("a b c, and z", seen(x), saved);
+        due("first bar", x.bar(0, 0), 0);
+        due("three bars", x.ofSong(0, 0), 3);
+        due("no lesson", x.ofSong(1, 4), 0);
     }
 
     @Sentence(of = "Promise 27", says = "This is a change.")
